@@ -45,9 +45,10 @@ public final class LightClassifier {
     private final byte[] tape = new byte[TAPE_BYTES];
     private int tapeBytes = 0;
     private int faultPlace = NONE;
-    private final Reader reader = new Reader();
     private Ontology current = new Ontology();
+    // A text is told to this one; only when it has no FAULT the two change places.
     private Ontology draft = new Ontology();
+    private final Reader reader = new Reader(tape, draft);
 
     private final int[] turned = new int[MOST_BACK];
     private int turnedCount = 0;
@@ -56,13 +57,13 @@ public final class LightClassifier {
     private boolean settled = false;
     private int rounds = 0;
     private final int[] cameIn = new int[MOST_PARTS * MOST_PARTS];
-    private final Saturation whole = new Saturation();
+    private final Saturation whole = new Saturation(current);
     private final Hierarchy hierarchy = new Hierarchy();
 
     // Questions beside the state work here, so that the settled answers stay.
-    private final Saturation trial = new Saturation();
+    private final Saturation trial = new Saturation(current);
     private final long[] extent = new long[MOST_PARTS];
-    private final Reasons reasons = new Reasons();
+    private final Reasons reasons = new Reasons(trial);
     private final Modules modules = new Modules();
 
     private final int[] refused = new int[3];
@@ -85,7 +86,7 @@ public final class LightClassifier {
     public int text(int n) throws IllegalArgumentException {
         needBytes(n);
         draft.clear();
-        reader.open(tape, n, draft, false);
+        reader.open(n, draft, false);
         reader.readAxioms();
         tapeBytes = 0;
         faultPlace = reader.faultPlace;
@@ -207,7 +208,7 @@ public final class LightClassifier {
         if (round == 0) {
             return what == 0 ? 0 : NONE;
         }
-        trial.begin(current, current.on);
+        trial.begin(current, current.on, current.allParts());
         for (int k = 1; k < round; k++) {
             trial.deriveAll();
             trial.commitAll();
@@ -271,14 +272,14 @@ public final class LightClassifier {
         needName(a);
         needName(b);
         aimReasons(a, b);
-        return reasons.needed32();
+        return reasons.neededAlone();
     }
 
     public long enough(int a, int b) throws NoSuchElementException {
         needName(a);
         needName(b);
         aimReasons(a, b);
-        return reasons.holds(current.on) ? reasons.shrink(current.on) : NONE;
+        return reasons.isSo ? reasons.shrink(reasons.base) : NONE;
     }
 
     public long reason(int a, int b, int k) throws NoSuchElementException {
@@ -318,8 +319,7 @@ public final class LightClassifier {
         int ofB = namesOver(whole, current.partOfName[b]);
         int both = Integer.bitCount(ofA & ofB);
         int either = Integer.bitCount(ofA | ofB);
-        int shared = greatestDivisor(both, either);
-        return (what == 0 ? both : either) / shared;
+        return what == 0 ? inLowestTerms(both, either) : inLowestTerms(either, both);
     }
 
     public int atom(int axiom) throws NoSuchElementException {
@@ -355,7 +355,7 @@ public final class LightClassifier {
     public int ask(int n) throws IllegalArgumentException {
         needBytes(n);
         int kept = current.parts;
-        reader.open(tape, n, current, true);
+        reader.open(n, current, true);
         reader.readQuestion();
         takeQuestion();
         int answer = reader.faultKind - FAULT_BASE;
@@ -382,10 +382,11 @@ public final class LightClassifier {
     public long model(int n) throws IllegalArgumentException {
         needBytes(n);
         int kept = current.parts;
+        long told = current.allParts();
         readOneConcept(n);
         long answer = reader.faultKind - FAULT_BASE;
         if (reader.faultKind == 0) {
-            answer = extentOf(reader.first) & (1L << kept) - 1L;
+            answer = extentOf(reader.first) & told;
         }
         current.parts = kept;
         return answer;
@@ -478,7 +479,7 @@ public final class LightClassifier {
         if (settled) {
             return;
         }
-        whole.begin(current, current.on);
+        whole.begin(current, current.on, current.allParts());
         for (int x = 0; x < current.parts; x++) {
             Arrays.fill(cameIn, x * MOST_PARTS, (x + 1) * MOST_PARTS, NONE);
             noteRound(x, whole.above[x], 0);
@@ -524,11 +525,11 @@ public final class LightClassifier {
     }
 
     private void aimReasons(int a, int b) {
-        reasons.aim(trial, current, current.partOfName[a], current.partOfName[b]);
+        reasons.aim(current, current.partOfName[a], current.partOfName[b]);
     }
 
     private void readOneConcept(int n) {
-        reader.open(tape, n, current, true);
+        reader.open(n, current, true);
         reader.readSingle();
         takeQuestion();
     }
@@ -539,7 +540,7 @@ public final class LightClassifier {
     }
 
     private int answerOf(int what, int concept) {
-        trial.saturate(current, current.on);
+        trial.saturate(current, current.on, current.allParts());
         if (what == 2) {
             return trial.isVoid(concept) ? 1 : 0;
         }
@@ -568,7 +569,7 @@ public final class LightClassifier {
 
     /** What is within a PART has a lesser number, so one pass over all lays out the MODEL. */
     private long extentOf(int concept) {
-        trial.saturate(current, current.on);
+        trial.saturate(current, current.on, current.allParts());
         for (int p = 0; p <= concept; p++) {
             extent[p] = extentOfOne(p);
         }
@@ -576,7 +577,7 @@ public final class LightClassifier {
     }
 
     private long extentOfOne(int p) {
-        long live = (1L << current.parts) - 1L & ~trial.holders[NOTHING];
+        long live = current.allParts() & ~trial.holders[NOTHING];
         int first = current.partFirst[p];
         int second = current.partSecond[p];
         switch (current.partKind[p]) {
@@ -595,21 +596,20 @@ public final class LightClassifier {
         return in & live;
     }
 
-    private static int greatestDivisor(int a, int b) {
+    private static int inLowestTerms(int number, int other) {
         for (int divisor = MOST_NAMES; divisor > 1; divisor--) {
-            if (a % divisor == 0 && b % divisor == 0) {
-                return divisor;
+            if (number % divisor == 0 && other % divisor == 0) {
+                return number / divisor;
             }
         }
-        return 1;
+        return number;
     }
 
-    /** Words of one kind, numbered as they come. */
+    /** Words of one kind, numbered as they come; the letters of each packed in one number, last one lowest. */
     private static final class Words {
         final int most;
         // Rows are as long as the larger kind needs.
-        final int[] letters = new int[MOST_NAMES * MOST_LETTERS];
-        final int[] lengths = new int[MOST_NAMES];
+        final long[] packed = new long[MOST_NAMES];
         int count = 0;
 
         Words(int most) {
@@ -617,33 +617,30 @@ public final class LightClassifier {
         }
 
         int letterAt(int k, int i) {
-            if (k < 0 || k >= count || i < 0 || i >= lengths[k]) {
+            if (k < 0 || k >= count || i < 0 || i >= MOST_LETTERS) {
                 return NONE;
             }
-            return letters[k * MOST_LETTERS + i];
+            int length = 0;
+            while (length < MOST_LETTERS && packed[k] >>> 8 * length != 0) {
+                length++;
+            }
+            return i >= length ? NONE : (int) (packed[k] >>> 8 * (length - 1 - i)) & 255;
         }
 
-        int find(byte[] tape, int from, int length) {
+        int find(long word) {
             for (int k = 0; k < count; k++) {
-                boolean same = lengths[k] == length;
-                for (int i = 0; same && i < length; i++) {
-                    same = letters[k * MOST_LETTERS + i] == tape[from + i];
-                }
-                if (same) {
+                if (packed[k] == word) {
                     return k;
                 }
             }
             return NONE;
         }
 
-        int add(byte[] tape, int from, int length) {
-            if (count >= most || length > MOST_LETTERS) {
+        int add(long word) {
+            if (count >= most) {
                 return NONE;
             }
-            for (int i = 0; i < length; i++) {
-                letters[count * MOST_LETTERS + i] = tape[from + i];
-            }
-            lengths[count] = length;
+            packed[count] = word;
             count++;
             return count - 1;
         }
@@ -686,6 +683,10 @@ public final class LightClassifier {
             intern(IS_NOTHING, NONE, NONE);
         }
 
+        long allParts() {
+            return (1L << parts) - 1L;
+        }
+
         /** The PART that is told so, a new one if there was none; NONE if it would be one too many. */
         int intern(int kind, int first, int second) {
             for (int p = 0; p < parts; p++) {
@@ -717,22 +718,27 @@ public final class LightClassifier {
         }
 
         void addConceptAxiom(int kind, int c, int d) {
-            addAxiom(kind, c, d, NONE);
-            axiomNames[axioms - 1] = partNames[c] | partNames[d];
-            axiomRoles[axioms - 1] = partRoles[c] | partRoles[d];
+            addAxiom(kind, c, d, NONE, partNames[c] | partNames[d], partRoles[c] | partRoles[d]);
         }
 
         void addRoleAxiom(int r, int s, int t) {
-            addAxiom(t == NONE ? ROLES_BELOW : CHAIN, r, s, t);
-            axiomNames[axioms - 1] = 0;
-            axiomRoles[axioms - 1] = 1 << r | 1 << s | (t == NONE ? 0 : 1 << t);
+            if (t == NONE) {
+                addAxiom(ROLES_BELOW, r, s, NONE, 0, 1 << r | 1 << s);
+            } else {
+                addAxiom(CHAIN, r, s, t, 0, 1 << r | 1 << s | 1 << t);
+            }
         }
 
-        private void addAxiom(int kind, int first, int second, int third) {
+        private void addAxiom(int kind, int first, int second, int third, int nameSigns, int roleSigns) {
+            if (axioms >= MOST_AXIOMS) {
+                return;
+            }
             axiomKind[axioms] = kind;
             axiomFirst[axioms] = first;
             axiomSecond[axioms] = second;
             axiomThird[axioms] = third;
+            axiomNames[axioms] = nameSigns;
+            axiomRoles[axioms] = roleSigns;
             on |= 1L << axioms;
             axioms++;
         }
@@ -755,15 +761,21 @@ public final class LightClassifier {
         static final int SEMICOLON = 12;
         static final int OTHER = 13;
 
-        byte[] tape = new byte[0];
+        // The keywords, packed as Words packs them.
+        static final long TOP_LETTERS = 0x746F70L;
+        static final long SOME_LETTERS = 0x736F6D65L;
+        static final long NOTHING_LETTERS = 0x6E6F7468696E67L;
+
+        final byte[] tape;
         int end = 0;
-        Ontology target = null;
+        Ontology target;
         boolean asking = false;
 
         int at = 0;
         int token = END;
         int start = 0;
         int length = 0;
+        long letters = 0;
 
         int faultKind = 0;
         int faultPlace = NONE;
@@ -777,8 +789,12 @@ public final class LightClassifier {
         int frames = 0;
         int brackets = 0;
 
-        void open(byte[] tape, int end, Ontology target, boolean asking) {
+        Reader(byte[] tape, Ontology target) {
             this.tape = tape;
+            this.target = target;
+        }
+
+        void open(int end, Ontology target, boolean asking) {
             this.end = end < tape.length ? end : tape.length;
             this.target = target;
             this.asking = asking;
@@ -951,11 +967,11 @@ public final class LightClassifier {
                 fail(2, start);
                 return NONE;
             }
-            int number = words.find(tape, start, length);
+            int number = words.find(letters);
             if (number == NONE && asking) {
                 fail(6, start);
             } else if (number == NONE) {
-                number = words.add(tape, start, length);
+                number = words.add(letters);
                 if (number == NONE) {
                     fail(3, start);
                 }
@@ -1010,7 +1026,7 @@ public final class LightClassifier {
 
         private int behindBlanks(int from) {
             int place = from;
-            while (place < end && isSign(place, ' ')) {
+            while (place < end && tape[place] == ' ') {
                 place++;
             }
             return place;
@@ -1024,7 +1040,9 @@ public final class LightClassifier {
                 token = END;
                 return;
             }
-            while (at < end && isLetter(tape[at])) {
+            letters = 0;
+            while (at < end && tape[at] >= 'a' && tape[at] <= 'z') {
+                letters = letters << 8 | tape[at];
                 at++;
             }
             length = at - start;
@@ -1040,26 +1058,15 @@ public final class LightClassifier {
             }
         }
 
-        private static boolean isLetter(int sign) {
-            return sign >= 'a' && sign <= 'z';
-        }
-
+        /** A word of eight letters or more has a highest byte, and so is none of these. */
         private int kindOfWord() {
-            if (isWord("top")) {
+            if (letters == TOP_LETTERS) {
                 return WORD_TOP;
             }
-            if (isWord("nothing")) {
+            if (letters == NOTHING_LETTERS) {
                 return WORD_NOTHING;
             }
-            return isWord("some") ? WORD_SOME : WORD;
-        }
-
-        private boolean isWord(String word) {
-            boolean same = word.length() == length;
-            for (int i = 0; same && i < length; i++) {
-                same = isSign(start + i, word.charAt(i));
-            }
-            return same;
+            return letters == SOME_LETTERS ? WORD_SOME : WORD;
         }
 
         private static int kindOfSign(int sign) {
@@ -1078,11 +1085,18 @@ public final class LightClassifier {
 
     /** ABOVE and LINKS by the rules: round by round, or in place where only the end counts. */
     private static final class Saturation {
-        Ontology onto = null;
+        Ontology onto;
         long on = 0;
         int parts = 0;
         int roles = 0;
+        // Only these X are looked at; of all others nothing is known.
         long active = 0;
+
+        int steps = 0;
+        final int[] stepFrom = new int[2 * MOST_AXIOMS];
+        final int[] stepTo = new int[2 * MOST_AXIOMS];
+        int chains = 0;
+        final int[] chainAxiom = new int[MOST_AXIOMS];
 
         final int[] under = new int[MOST_ROLES];
         final long[] above = new long[MOST_PARTS];
@@ -1095,53 +1109,94 @@ public final class LightClassifier {
         final long[] newAbove = new long[MOST_PARTS];
         final long[] newLinks = new long[MOST_PARTS * MOST_ROLES];
 
-        void begin(Ontology onto, long on) {
+        Saturation(Ontology onto) {
             this.onto = onto;
-            this.on = on;
-            parts = onto.parts;
-            roles = onto.roles.count;
-            layUnder();
-            Arrays.fill(links, 0, parts * MOST_ROLES, 0L);
-            Arrays.fill(reach, 0, parts * MOST_ROLES, 0L);
-            Arrays.fill(newLinks, 0, parts * MOST_ROLES, 0L);
-            for (int x = 0; x < parts; x++) {
-                above[x] = 1L << x | 1L << TOP;
-                holders[x] = 1L << x;
-                linked[x] = 0;
-                newAbove[x] = 0;
-            }
-            holders[TOP] = (1L << parts) - 1L;
         }
 
-        private void layUnder() {
-            for (int r = 0; r < roles; r++) {
-                under[r] = 1 << r;
-            }
-            boolean more = true;
-            for (int pass = 0; more && pass <= MOST_ROLES; pass++) {
-                more = false;
-                for (int k = 0; k < onto.axioms; k++) {
-                    if (isOnOf(k, ROLES_BELOW)) {
-                        more |= spreadUnder(onto.axiomFirst[k], onto.axiomSecond[k]);
+        /** ROUND 0 of these X, by these AXIOMS. */
+        void begin(Ontology onto, long on, long active) {
+            this.onto = onto;
+            this.on = on;
+            this.active = 0;
+            parts = onto.parts;
+            roles = onto.roles.count;
+            sortAxioms();
+            Arrays.fill(holders, 0L);
+            activate(active);
+        }
+
+        private void sortAxioms() {
+            steps = 0;
+            chains = 0;
+            boolean anyPair = false;
+            for (int k = 0; k < onto.axioms; k++) {
+                if ((on >>> k & 1L) == 0) {
+                    continue;
+                }
+                int kind = onto.axiomKind[k];
+                if (kind == CHAIN) {
+                    chainAxiom[chains] = k;
+                    chains++;
+                } else if (kind == ROLES_BELOW) {
+                    anyPair = true;
+                } else {
+                    addStep(onto.axiomFirst[k], onto.axiomSecond[k]);
+                    if (kind == EQUAL) {
+                        addStep(onto.axiomSecond[k], onto.axiomFirst[k]);
                     }
                 }
             }
+            for (int r = 0; r < roles; r++) {
+                under[r] = 1 << r;
+            }
+            for (int pass = 0; anyPair && pass <= MOST_ROLES; pass++) {
+                anyPair = spreadUnder();
+            }
         }
 
-        private boolean spreadUnder(int first, int second) {
+        private void addStep(int from, int to) {
+            if (steps < stepFrom.length && steps < stepTo.length) {
+                stepFrom[steps] = from;
+                stepTo[steps] = to;
+                steps++;
+            }
+        }
+
+        private boolean spreadUnder() {
             boolean more = false;
-            for (int r = 0; r < roles; r++) {
-                int all = under[r] | under[second];
-                if ((under[r] >>> first & 1) != 0 && all != under[r]) {
-                    under[r] = all;
-                    more = true;
+            for (int k = 0; k < onto.axioms; k++) {
+                if ((on >>> k & 1L) == 0 || onto.axiomKind[k] != ROLES_BELOW) {
+                    continue;
+                }
+                for (int r = 0; r < roles; r++) {
+                    int all = under[r] | under[onto.axiomSecond[k]];
+                    if ((under[r] >>> onto.axiomFirst[k] & 1) != 0 && all != under[r]) {
+                        under[r] = all;
+                        more = true;
+                    }
                 }
             }
             return more;
         }
 
-        private boolean isOnOf(int k, int kind) {
-            return (on >>> k & 1L) != 0 && onto.axiomKind[k] == kind;
+        private void activate(long set) {
+            long fresh = set & ~active;
+            for (int x = 0; fresh != 0 && x < parts; x++) {
+                if ((fresh >>> x & 1L) == 0) {
+                    continue;
+                }
+                above[x] = 1L << x | 1L << TOP;
+                holders[x] |= 1L << x;
+                holders[TOP] |= 1L << x;
+                linked[x] = 0;
+                newAbove[x] = 0;
+                for (int r = 0; r < roles; r++) {
+                    links[x * MOST_ROLES + r] = 0;
+                    reach[x * MOST_ROLES + r] = 0;
+                    newLinks[x * MOST_ROLES + r] = 0;
+                }
+            }
+            active |= set;
         }
 
         boolean isVoid(int x) {
@@ -1174,9 +1229,9 @@ public final class LightClassifier {
             return more;
         }
 
-        void saturate(Ontology onto, long on) {
-            begin(onto, on);
-            active = (1L << parts) - 1L;
+        /** All of these X, and all that they are linked to, to the last ROUND. */
+        void saturate(Ontology onto, long on, long active) {
+            begin(onto, on, active);
             boolean more = true;
             for (int pass = 0; more && pass < MOST_ROUNDS; pass++) {
                 more = sweep();
@@ -1185,8 +1240,7 @@ public final class LightClassifier {
 
         /** Only what x is linked to, step by step, can have a say in what is above x. */
         boolean entails(Ontology onto, long on, int x, int y) {
-            begin(onto, on);
-            active = 1L << x;
+            begin(onto, on, 1L << x);
             boolean more = true;
             for (int pass = 0; more && pass < MOST_ROUNDS && !isBelow(x, y); pass++) {
                 more = sweep();
@@ -1200,10 +1254,40 @@ public final class LightClassifier {
                 if ((active >>> x & 1L) != 0) {
                     derive(x);
                     more |= commit(x);
-                    active |= linked[x];
+                    activate(linked[x]);
                 }
             }
             return more;
+        }
+
+        /** AXIOMS that had a say in what is known now; with fewer AXIOMS no other one can have. */
+        long usedAxioms() {
+            int reached = 0;
+            for (int x = 0; x < parts; x++) {
+                for (int r = 0; r < roles; r++) {
+                    if ((active >>> x & 1L) != 0 && reach[x * MOST_ROLES + r] != 0) {
+                        reached |= 1 << r;
+                    }
+                }
+            }
+            long used = 0;
+            for (int k = 0; k < onto.axioms; k++) {
+                if ((on >>> k & 1L) != 0 && isUsed(k, reached)) {
+                    used |= 1L << k;
+                }
+            }
+            return used;
+        }
+
+        private boolean isUsed(int k, int reached) {
+            int first = onto.axiomFirst[k];
+            int second = onto.axiomSecond[k];
+            switch (onto.axiomKind[k]) {
+                case BELOW: return holders[first] != 0;
+                case EQUAL: return (holders[first] | holders[second]) != 0;
+                case ROLES_BELOW: return (reached >>> first & 1) != 0;
+                default: return (reached >>> first & reached >>> second & 1) != 0;
+            }
         }
 
         private void derive(int x) {
@@ -1219,19 +1303,8 @@ public final class LightClassifier {
 
         private long byAxioms(long up) {
             long fresh = 0;
-            for (int k = 0; k < onto.axioms; k++) {
-                int kind = onto.axiomKind[k];
-                if (kind > EQUAL || (on >>> k & 1L) == 0) {
-                    continue;
-                }
-                int c = onto.axiomFirst[k];
-                int d = onto.axiomSecond[k];
-                if ((up >>> c & 1L) != 0) {
-                    fresh |= 1L << d;
-                }
-                if (kind == EQUAL && (up >>> d & 1L) != 0) {
-                    fresh |= 1L << c;
-                }
+            for (int k = 0; k < steps; k++) {
+                fresh |= (up >>> stepFrom[k] & 1L) << stepTo[k];
             }
             return fresh;
         }
@@ -1262,10 +1335,8 @@ public final class LightClassifier {
         }
 
         private void byChains(int x) {
-            for (int k = 0; k < onto.axioms; k++) {
-                if (!isOnOf(k, CHAIN)) {
-                    continue;
-                }
+            for (int i = 0; i < chains; i++) {
+                int k = chainAxiom[i];
                 long middle = reach[x * MOST_ROLES + onto.axiomFirst[k]];
                 int second = onto.axiomSecond[k];
                 long ends = 0;
@@ -1339,11 +1410,15 @@ public final class LightClassifier {
 
         private int leastAxiom(long up, int y) {
             for (int k = 0; k < onto.axioms; k++) {
+                int kind = onto.axiomKind[k];
+                if (kind > EQUAL || (on >>> k & 1L) == 0) {
+                    continue;
+                }
                 int c = onto.axiomFirst[k];
                 int d = onto.axiomSecond[k];
-                boolean equal = isOnOf(k, EQUAL);
-                boolean forth = (equal || isOnOf(k, BELOW)) && d == y && (up >>> c & 1L) != 0;
-                if (forth || equal && c == y && (up >>> d & 1L) != 0) {
+                boolean forth = d == y && (up >>> c & 1L) != 0;
+                boolean back = kind == EQUAL && c == y && (up >>> d & 1L) != 0;
+                if (forth || back) {
                     return k;
                 }
             }
@@ -1487,35 +1562,48 @@ public final class LightClassifier {
         final long[] found = new long[MOST_REASONS + 1];
         int count = 0;
         boolean known = false;
-        Saturation facts = null;
-        Ontology onto = null;
+
+        final Saturation facts;
+        Ontology onto;
         int lower = NONE;
         int upper = NONE;
+        boolean aimed = false;
+        boolean isSo = false;
+        // Of the AXIOMS that are ON those that can have a say.
+        long base = 0;
 
-        void forget() {
-            known = false;
+        Reasons(Saturation facts) {
+            this.facts = facts;
+            this.onto = facts.onto;
         }
 
-        void aim(Saturation facts, Ontology onto, int lower, int upper) {
-            known = known && lower == this.lower && upper == this.upper;
-            this.facts = facts;
+        void forget() {
+            aimed = false;
+        }
+
+        void aim(Ontology onto, int lower, int upper) {
+            if (aimed && lower == this.lower && upper == this.upper) {
+                return;
+            }
             this.onto = onto;
             this.lower = lower;
             this.upper = upper;
+            facts.saturate(onto, onto.on, 1L << lower);
+            isSo = facts.isBelow(lower, upper);
+            base = facts.usedAxioms();
+            aimed = true;
+            known = false;
         }
 
-        boolean holds(long axioms) {
+        private boolean holds(long axioms) {
             return facts.entails(onto, axioms, lower, upper);
         }
 
-        long needed32() {
-            if (!holds(onto.on)) {
-                return 0L;
-            }
+        long neededAlone() {
             long needed = 0;
-            for (int k = 0; k < onto.axioms; k++) {
-                long without = onto.on & ~(1L << k);
-                if (without != onto.on && !holds(without)) {
+            for (int k = 0; isSo && k < onto.axioms; k++) {
+                long without = base & ~(1L << k);
+                if (without != base && !holds(without)) {
                     needed |= 1L << k;
                 }
             }
@@ -1541,9 +1629,9 @@ public final class LightClassifier {
             }
             known = true;
             count = 0;
-            long out = holds(onto.on) ? 0L : NONE;
+            long out = isSo ? 0L : NONE;
             for (int k = 0; k <= MOST_REASONS && out != NONE; k++) {
-                found[k] = shrink(onto.on & ~out);
+                found[k] = shrink(base & ~out);
                 count = k + 1;
                 out = k < MOST_REASONS ? freeing(0, 0L, 0L) : NONE;
             }
@@ -1556,7 +1644,7 @@ public final class LightClassifier {
                 return NONE;
             }
             if (level >= count) {
-                return holds(onto.on & ~out) ? out : NONE;
+                return holds(base & ~out) ? out : NONE;
             }
             if ((found[level] & out) != 0) {
                 return freeing(level + 1, out, barred);
