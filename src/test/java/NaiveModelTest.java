@@ -1028,7 +1028,94 @@ public final class NaiveModelTest {
         }
     }
 
+    /** Texts on which every call is made with every number in range and just out of it. */
+    static final String[] CORNERS = {
+        "",
+        "a<some r top;top<b;some r b<c;c<some s d;r*s<<t;some t top<e;",
+        "a<some r top;top<some s b;r*s<<t;some t b<c;c<some r top;",
+        "top<nothing;a<b;",
+        "nothing<a;top=b;b<c;some r nothing<d;d<some s d;",
+        "b<c;a<b;d=c;c=e&e;c<b;f<a;f<g;g<c;",
+        "r<<s;s<<r;t*r<<t;a<some t b;b<some s c;some t c<nothing;d<some r a&e;",
+        "a&b<nothing;c<a;c<d;d<b;e<some r c;e<some s f;some s f<g;g<h;",
+        "a=some r a;b=some r b;a<b;some r some r b<c;r*r<<r;",
+    };
+
+    /** As many PARTS, NAMES, ROLES, AXIOMS as there may be. */
+    static final String[] LIMITS = {
+        "a&".repeat(57) + "a<a;",
+        "some r ".repeat(56) + "a<a;",
+        "r*s<<t;u*v<<w;x<<y;r<<t;a<some r b;b<some s c;some t c<d;d<e&f&g&h&i&j&k&l&m&n&o&p&q&r&s&t&u&v&w&x;"
+            + "x<some u a;a<some v x;some w x<some y a;some y a<some x b;a<some x some w b;" + "c<c;".repeat(19),
+        "a<b;b<c;c<d;d<e;e<f;f<g;g<h;h<i;i<j;j<k;k<l;l<m;m<n;n<o;o<p;p<q;q<r;r<s;s<t;t<u;u<v;v<w;w<x;"
+            + "a<some r x;some r x<some s a;r<<s;s<<t;t<<u;u<<v;v<<w;w<<x;x*x<<y;",
+    };
+
+    static List<Object[]> everyCall(Onto o, boolean small) {
+        List<Object[]> all = new ArrayList<>();
+        int[] bounds = {o.axioms.size(), o.parts.size(), o.names.size(), o.roles.size()};
+        String[][] calls = {{"told", "c"}, {"axiom", "a5"}, {"part", "p3"}, {"letter", "2n7"}, {"letter", "2r7"}, {"named", "n"},
+            {"below", "pp"}, {"when", "pp"}, {"why", "pp2"}, {"link", "prp"}, {"under", "r"}, {"node", "n"}, {"nodeOf", "n6"},
+            {"nothing", ""}, {"common", "nn"}, {"likeness", "nn2"}, {"atom", "a"}, {"depends", "a"}, {"print", ""}, {"status", "3"},
+            {"needed", "nn"}, {"enough", "nn"}, {"reason", "nn6"}, {"repair", "nn"}};
+        for (String[] call : calls) {
+            List<int[]> rows = new ArrayList<>();
+            rows.add(new int[0]);
+            for (char kind : call[1].toCharArray()) {
+                int bound = kind == 'c' ? 12 : Character.isDigit(kind) ? kind - '0' : bounds["apnr".indexOf(kind)];
+                List<int[]> longer = new ArrayList<>();
+                for (int[] row : rows) {
+                    for (int v = call[0].equals("reason") && Character.isDigit(kind) ? -3 : -1; v <= bound; v++) {
+                        int[] next = Arrays.copyOf(row, row.length + 1);
+                        next[row.length] = v;
+                        longer.add(next);
+                    }
+                }
+                rows = longer;
+            }
+            boolean dear = "needed enough reason repair".contains(call[0]);
+            // Of many rows some are taken, with the first and the last.
+            int step = Math.max(1, rows.size() / 1500) | (rows.size() > 1500 ? 1 : 0);
+            if (dear && !small) { step = Math.max(1, rows.size() / 4); }
+            if (dear && !small && (call[0].equals("reason") || call[0].equals("repair"))) { continue; }
+            for (int i = 0; i < rows.size(); i += step) { all.add(new Object[] {call[0], rows.get(i)}); }
+            all.add(new Object[] {call[0], rows.get(rows.size() - 1)});
+        }
+        for (int way = -1; way <= 3; way++) {
+            int names = Math.min(bounds[2], 6), roles = Math.min(bounds[3], 3);
+            for (int m = 0; m <= 1 << names; m++) { for (int q = 0; q <= 1 << roles; q++) { all.add(new Object[] {"module", new int[] {m, q, way}}); } }
+        }
+        return all;
+    }
+
+    static void corner(String text, boolean small) {
+        Run run = null;
+        Facts kept = null;
+        List<Facts> sets = null;
+        for (int off = -1; off < (small ? 2 : 0); off++) {
+            run = null;
+            kept = null;
+            sets = null;
+            Onto told = new Onto();
+            try { new Parser(text, told, false).all(); } catch (Fault e) { throw new RuntimeException("fault at " + e.place + " of " + text); }
+            for (Object[] call : everyCall(told, small)) {
+                if (run == null || run.calls > 500) {
+                    if (run != null) { kept = run.y.facts; sets = run.y.subsets; }
+                    run = new Run(-1);
+                    run.call("text", run.feed(text));
+                    if (off >= 0 && off < told.axioms.size()) { run.call("turn", off); }
+                    // The same ontology again: its facts need not be found anew.
+                    run.y.facts = kept;
+                    run.y.subsets = sets;
+                }
+                run.call((String) call[0], (int[]) call[1]);
+            }
+        }
+    }
+
     public static void main(String[] args) {
+        for (String text : CORNERS) { corner(text, true); }
+        for (String text : LIMITS) { corner(text, false); }
         int from = args.length > 0 ? Integer.parseInt(args[0]) : 0;
         int to = args.length > 1 ? Integer.parseInt(args[1]) : 150;
         for (int k = from; k < to; k++) { new Run(k).go(); }

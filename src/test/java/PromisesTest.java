@@ -501,6 +501,8 @@ public final class PromisesTest {
                 due("nodeOf(" + k + ", " + what + ")", x.nodeOf(k, what), want[k][what]);
             }
         }
+        LightClassifier y = with("b<c;a<b;");
+        due("NODE 0 is between", y.nodeOf(y.node(name(y, 'a')), 1), 1);
         noSuch("nodeOf(5, 0)", () -> x.nodeOf(5, 0));
         noSuch("nodeOf(-1, 9)", () -> x.nodeOf(-1, 9));
         noSuch("nodeOf(-2, 0)", () -> x.nodeOf(-2, 0));
@@ -588,6 +590,12 @@ public final class PromisesTest {
         due("their order", w.reason(0, name(w, 'z'), 0), 1 | 2 | 4);
         due("their order", w.reason(0, name(w, 'z'), 1), 4 | 8);
         due("their order", w.reason(0, name(w, 'z'), 2), 1 | 16);
+        // The one in the middle is met only by leaving out AXIOM 0 and AXIOM 4.
+        LightClassifier v = with("a<m;m<z;a<a;a<m&n;n<z;");
+        due("reasons in a row", v.reason(0, name(v, 'z'), NONE), 3);
+        due("reasons in a row", v.reason(0, name(v, 'z'), 0), 1 | 2);
+        due("reasons in a row", v.reason(0, name(v, 'z'), 1), 2 | 8);
+        due("reasons in a row", v.reason(0, name(v, 'z'), 2), 8 | 16);
     }
 
     private static void promise24Repair() {
