@@ -1,116 +1,5 @@
-import java.util.NoSuchElementException;
-
 /** One method a promise: ordinary inputs, the edges that the document names, wrong inputs. */
-public final class PromisesTest {
-    private static final int NONE = LightClassifier.NONE;
-    private static int wrong = 0;
-    private static int checked = 0;
-
-    private interface Call {
-        long run();
-    }
-
-    private static void due(String what, long got, long want) {
-        checked++;
-        if (got != want) {
-            wrong++;
-            System.out.println(what + " answered " + got + ", due is " + want);
-        }
-    }
-
-    private static void due(String what, boolean got, boolean want) {
-        due(what, got ? 1 : 0, want ? 1 : 0);
-    }
-
-    private static void refused(String what, Class<?> want, Call call) {
-        checked++;
-        String got;
-        try {
-            got = "answered " + call.run();
-        } catch (RuntimeException e) {
-            if (e.getClass() == want) {
-                return;
-            }
-            got = "threw " + e.getClass().getSimpleName();
-        }
-        wrong++;
-        System.out.println(what + " " + got + ", due is " + want.getSimpleName());
-    }
-
-    private static void noSuch(String what, Call call) {
-        refused(what, NoSuchElementException.class, call);
-    }
-
-    private static void wrongArgument(String what, Call call) {
-        refused(what, IllegalArgumentException.class, call);
-    }
-
-    private static int feed(LightClassifier x, String s) {
-        for (int p = 0; p < s.length(); p += 20) {
-            int[] v = new int[5];
-            for (int i = 0; i < 20 && p + i < s.length(); i++) {
-                v[i / 4] |= s.charAt(p + i) << 24 - 8 * (i % 4);
-            }
-            x.feed(v[0], v[1], v[2], v[3], v[4]);
-        }
-        return s.length();
-    }
-
-    private static int tell(LightClassifier x, String s) {
-        return x.text(feed(x, s));
-    }
-
-    private static LightClassifier with(String s) {
-        LightClassifier x = new LightClassifier();
-        int told = tell(x, s);
-        if (told < 0) {
-            due("a text of a test, its fault at " + x.fault() + " of " + s, told, 0);
-        }
-        return x;
-    }
-
-    private static int ask(LightClassifier x, String s) {
-        return x.ask(feed(x, s));
-    }
-
-    private static int of(LightClassifier x, int what, String s) {
-        return x.of(what, feed(x, s));
-    }
-
-    private static long model(LightClassifier x, String s) {
-        return x.model(feed(x, s));
-    }
-
-    private static int name(LightClassifier x, char letter) {
-        for (int k = 0; k < x.told(2); k++) {
-            if (x.letter(0, k, 0) == letter) {
-                return k;
-            }
-        }
-        return NONE;
-    }
-
-    private static int part(LightClassifier x, char letter) {
-        return x.named(name(x, letter));
-    }
-
-    private static void fault(String s, int kind, int place) {
-        LightClassifier x = with("k<l;");
-        x.turn(0);
-        due("text of " + s, tell(x, s), kind - 10);
-        due("fault() of " + s, x.fault(), place);
-        due("axioms behind " + s, x.told(0), 1);
-        due("what is ON behind " + s, x.told(1), 0);
-        due("what can be taken back behind " + s, x.told(10), 1);
-        due("tape behind " + s, x.told(9), 0);
-    }
-
-    private static void good(String s, int axioms) {
-        LightClassifier x = new LightClassifier();
-        due("text of " + s, tell(x, s), axioms);
-        due("fault() of " + s, x.fault(), NONE);
-    }
-
+public final class PromisesTest extends Checks {
     private static void promise01NewObject() {
         LightClassifier x = new LightClassifier();
         int[] want = {0, 0, 0, 0, 2, 0, 0, 0, 0, 0, 0, 3};
@@ -526,8 +415,8 @@ public final class PromisesTest {
         due("common of a, e", x.common(a, name(x, 'e')), 1 << x.node(name(x, 'e')));
         due("common of a, g", x.common(a, name(x, 'g')), 0);
         due("common of a, t", x.common(a, name(x, 't')), 0);
-        refused("common with what is VOID", IllegalStateException.class, () -> x.common(a, name(x, 'v')));
-        refused("common of what is VOID", IllegalStateException.class, () -> x.common(name(x, 'v'), a));
+        wrongState("common with what is VOID", () -> x.common(a, name(x, 'v')));
+        wrongState("common of what is VOID", () -> x.common(name(x, 'v'), a));
         noSuch("common of what is VOID and none", () -> x.common(name(x, 'v'), 99));
         noSuch("common(-1, 0)", () -> x.common(-1, 0));
         due("status(2)", x.status(2), 2);
@@ -789,7 +678,7 @@ public final class PromisesTest {
         noSuch("turn(9)", () -> x.turn(9));
         noSuch("axiom(9, 9)", () -> x.axiom(9, 9));
         wrongArgument("told(99)", () -> x.told(99));
-        refused("common(0, 0)", IllegalStateException.class, () -> x.common(0, 0));
+        wrongState("common(0, 0)", () -> x.common(0, 0));
         tell(x, "a<");
         x.undo();
         due("status(0)", x.status(0), 2);
@@ -834,9 +723,6 @@ public final class PromisesTest {
         promise31Model();
         promise32Print();
         promise33Status();
-        System.out.println(checked + " answers checked, not as due: " + wrong);
-        if (wrong != 0) {
-            System.exit(1);
-        }
+        end();
     }
 }
