@@ -120,6 +120,37 @@ public final class EdgesOfPromisesTest extends Checks {
         due("of all 400", x.text(400), 1);
     }
 
+    static void p03_nothingOfEarlierTexts() {
+        says(3, "tell all AXIOMS anew");
+        String[] texts = {"v<nothing;a<some r v;r<<s;r*s<<t;c=d;some t top<e;", "a<b;", "", "b&a<c;c<some q d;", "a<b;some u a<c;", "a<b;",
+            "x&y<nothing;x<some r y;r<<s;a<x&y;" + "z=x;".repeat(20), "p<q;q<p;"};
+        LightClassifier x = new LightClassifier();
+        for (int k = 0; k < 3 * texts.length; k++) {
+            String text = texts[k * 5 % texts.length];
+            LightClassifier y = with(text);
+            tell(x, text);
+            String what = "told behind others, " + text;
+            due(what, all(x), all(y));
+        }
+        tell(x, "some r a<b;");
+        tell(x, "");
+        tell(x, "a<b;r<<s;");
+        due("ROLES of a PART that there was", x.depends(0), 1);
+    }
+
+    /** Answers of every kind, some for each AXIOM, NAME and ROLE. */
+    private static String all(LightClassifier x) {
+        StringBuilder s = new StringBuilder(state(x));
+        for (int k = 0; k < x.told(0) && k < 2; k++) {
+            s.append(" axiom ").append(x.axiom(k, 2)).append(' ').append(x.atom(k)).append(' ').append(x.depends(k));
+        }
+        if (x.told(2) > 1) {
+            s.append(" names ").append(x.node(0)).append(' ').append(x.node(1)).append(' ').append(x.reason(0, 1, NONE));
+            s.append(' ').append(x.named(1)).append(' ').append(x.likeness(0, 1, 1));
+        }
+        return s.append(" ask ").append(ask(x, "top<nothing")).toString();
+    }
+
     static void p03_eachOn() {
         says(3, "each ON (nothing can be taken back): how many");
         LightClassifier x = with("a<b;c<d;");
@@ -243,6 +274,28 @@ public final class EdgesOfPromisesTest extends Checks {
         due("a is below c", isBelow(x, 'a', 'c'), true);
         due("AXIOM 0", x.turn(0), 0);
         due("ON", x.told(1), 31);
+    }
+
+    static void p05_nothingOfWhatWasOn() {
+        says(5, "OFF, if it is ON: 1 it is ON now, 0 OFF.");
+        LightClassifier x = with("a<some r v;v<nothing;b=c;r<<s;some s v<d;");
+        due("VOID NAMES", x.nothing(), 3);
+        due("NAMES of b's NODE", x.nodeOf(x.node(2), 0), 4 | 8);
+        due("ask, VOID", ask(x, "a<b"), 1);
+        x.turn(0);
+        due("VOID NAMES without the LINK", x.nothing(), 2);
+        due("ask without the LINK", ask(x, "a<b"), 0);
+        due("LINKS", x.told(6), 3);
+        x.turn(0);
+        x.turn(1);
+        due("no VOID NAMES", x.nothing(), 0);
+        due("ask, not VOID", ask(x, "a<b"), 0);
+        due("SOME", ask(x, "a<d"), 1);
+        x.turn(2);
+        due("NAMES of b's NODE alone", x.nodeOf(x.node(2), 0), 4);
+        x.turn(3);
+        due("UNDER", x.under(0), 1);
+        due("SOME without the ROLES", ask(x, "a<d"), 0);
     }
 
     static void p05_answersFollow() {
@@ -697,6 +750,7 @@ public final class EdgesOfPromisesTest extends Checks {
         due("NOTHING", x.when(1, 2), 0);
         due("NOTHING in what is VOID", x.when(part(x, 'v'), 1), 1);
         due("57 ROUNDS", with(PARTS_60).when(2, 59), 57);
+        due("out of 57 ANDS", with(PARTS_60).when(59, 3), 2);
     }
 
     static void p14_leastAxiom() {
@@ -757,6 +811,9 @@ public final class EdgesOfPromisesTest extends Checks {
         due("of TOP", x.why(2, 0, 1), NONE);
         due("rule 3", x.why(2, x.axiom(2, 2), 0), 3);
         due("of rule 3", x.why(2, x.axiom(2, 2), 1), NONE);
+        due("rule 3 of 60 PARTS", with(PARTS_60).why(2, 59, 0), 3);
+        LightClassifier y = with("a<b;a<c;b&c<d;" + "d<d;".repeat(29));
+        due("rule 3 beside 32 AXIOMS", y.why(2, y.axiom(2, 2), 0), 3);
     }
 
     static void p14_noneBoth() {
@@ -1131,6 +1188,11 @@ public final class EdgesOfPromisesTest extends Checks {
         feed(x, "a<b&c");
         due("3 of 20 bytes", x.ask(3), 1);
         due("the TAPE is empty", x.told(9), 0);
+        feed(x, "a<bc");
+        due("a word cut in two", x.ask(3), 1);
+        feed(x, "a<<b");
+        due("a sign cut in two", x.ask(2), 1 - 10);
+        due("its place", x.fault(), 2);
         due("blanks", ask(x, "  a  <  some r  ( c )  "), 1);
         askFault(x, "", 1, 0);
         askFault(x, "   ", 1, 3);

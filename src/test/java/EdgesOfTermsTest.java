@@ -31,6 +31,10 @@ public final class EdgesOfTermsTest extends Checks {
         due("the 24th NAME", x.letter(0, 23, 0), 'x');
         due("its NODE", x.node(23), 23);
         due("its bit", x.nodeOf(22, 3), 1 << 23);
+        due("its CHILDREN", x.nodeOf(23, 2), 1 << 22);
+        due("all below it", x.nodeOf(23, 4), 1 << 22);
+        due("its DEPTH", x.nodeOf(22, 5), 2);
+        due("COMMON", x.common(22, 23), 1 << 23);
         good(NAMES_24 + "x<a;", 13);
     }
 
@@ -111,6 +115,9 @@ public final class EdgesOfTermsTest extends Checks {
         due("kind", x.axiom(0, 0), 1);
         due("C below D", isBelow(x, 'a', 'b'), true);
         due("D below C", isBelow(x, 'b', 'a'), true);
+        LightClassifier y = with("a=a;".repeat(31) + "a=b;");
+        due("the last of 32, C below D", isBelow(y, 'a', 'b'), true);
+        due("the last of 32, D below C", isBelow(y, 'b', 'a'), true);
     }
 
     static void t1_rolesBelow() {
@@ -352,6 +359,26 @@ public final class EdgesOfTermsTest extends Checks {
         fault(ROLES_8 + "y<b;z<<", 3, 24);
     }
 
+    static void t1_allLimitsAtOnce() {
+        says("Terms 1", "at most 60");
+        String ands = NAMES_24.replace('<', '&').replace(';', '&');
+        LightClassifier x = with(ROLES_8 + ands.substring(0, 47) + "<a;" + "some h ".repeat(11) + "a<a;" + "x<x;".repeat(26));
+        int[] want = {32, 32, 24, 8, 60};
+        for (int k = 0; k < want.length; k++) {
+            due("told(" + k + ")", x.told(k), want[k]);
+        }
+        due("LINKS", x.told(6), 11);
+        due("the last LINK", x.link(59, 7, 58), true);
+        due("the last PART", x.below(59, part(x, 'a')), true);
+        due("why", x.why(59, 2, 0), 1);
+        due("why not", x.why(2, 59, 0), NONE);
+        due("needed", x.needed(0, 1), 0);
+        due("REASONS", x.reason(0, 0, NONE), 1);
+        due("MODULE", x.module((1 << 24) - 1, 255, 2), (1L << 32) - 1);
+        due("ask", ask(x, "x<a&b"), 0);
+        due("MODEL of the last PART", model(x, "some h ".repeat(11) + "a"), 1L << 59);
+    }
+
     static void t1_namesAndRolesApart() {
         says("Terms 1", "NAMES and ROLES have nothing to do with each other.");
         LightClassifier x = with("b<a;a<<c;some b b<a;");
@@ -415,6 +442,12 @@ public final class EdgesOfTermsTest extends Checks {
         feed(x, "a<b;c<d;");
         due("the text ends where it is told to", x.text(7), 1 - 10);
         due("at the length", x.fault(), 7);
+        feed(x, "a<<b;");
+        due("what is behind the end does not count", x.text(2), 1 - 10);
+        due("at the length, a sign cut in two", x.fault(), 2);
+        feed(x, "a<bcd;");
+        due("a word cut in two", x.text(4), 1 - 10);
+        due("at the length, a word cut in two", x.fault(), 4);
     }
 
     static void t1_fault2() {
@@ -588,6 +621,9 @@ public final class EdgesOfTermsTest extends Checks {
         LightClassifier x = with("a<b;a<c;b&c<d;b&b<e;top&a<f;");
         due("both", x.when(part(x, 'a'), x.axiom(2, 2)), 2);
         due("by it", whenIs(x, 'a', 'd'), 3);
+        LightClassifier v = with("a<b;a<c;b&c<d;c&b<e;d&e<f;");
+        due("two in one ROUND", whenIs(v, 'a', 'd'), 3);
+        due("two in one ROUND", whenIs(v, 'a', 'e'), 3);
         due("D and E are one", x.when(part(x, 'b'), x.axiom(3, 2)), 1);
         due("D is TOP", x.when(part(x, 'a'), x.axiom(4, 2)), 1);
         due("one alone", x.below(part(x, 'b'), x.axiom(2, 2)), false);
@@ -605,6 +641,9 @@ public final class EdgesOfTermsTest extends Checks {
         due("a LINK to TOP", with("a<some r top;").link(2, 0, 0), true);
         due("a LINK to itself", with("a<some r a;").link(2, 0, 2), true);
         due("a LINK to NOTHING", with("a<some r nothing;").link(2, 0, 1), true);
+        LightClassifier y = with("a<some r b;a<c;c<some r d;");
+        due("of one ROLE, in an earlier ROUND", y.link(part(y, 'a'), 0, part(y, 'b')), true);
+        due("of one ROLE, in a later ROUND", y.link(part(y, 'a'), 0, part(y, 'd')), true);
     }
 
     static void t2_ruleSome() {
@@ -619,7 +658,17 @@ public final class EdgesOfTermsTest extends Checks {
         due("r is not UNDER s", x.below(a, x.axiom(2, 2)), false);
         LightClassifier y = with("a<some r b;some r top<d;some s b<e;s<<r;");
         due("E is TOP", isBelow(y, 'a', 'd'), true);
+        LightClassifier v = with("a<some r top;top<b;some r b<c;");
+        due("Y is TOP", isBelow(v, 'a', 'c'), true);
+        due("Y is TOP, asked", ask(v, "a<c"), 1);
+        due("Y is TOP, by all three", v.needed(0, name(v, 'c')), 7);
         due("s UNDER r is the wrong way", isBelow(y, 'a', 'e'), false);
+        LightClassifier z = with("a<some r b;some s b<c;some t b<d;r<<s;r<<t;");
+        due("two in one ROUND", whenIs(z, 'a', 'c'), 4);
+        due("two in one ROUND", whenIs(z, 'a', 'd'), 4);
+        // E comes into ABOVE(b) only behind another LINK of a.
+        LightClassifier w = with("a<some r b;a<p;p<some r c;b<u;u<v;v<w;some r w<d;");
+        due("by an earlier LINK", isBelow(w, 'a', 'd'), true);
     }
 
     static void t2_ruleChain() {
@@ -642,6 +691,13 @@ public final class EdgesOfTermsTest extends Checks {
         LightClassifier w = with("a<some r b;b<some r c;c<some r d;d<some r e;r*r<<r;");
         due("a CHAIN of one ROLE, four steps", w.link(part(w, 'a'), 0, part(w, 'e')), true);
         due("not back", w.link(part(w, 'e'), 0, part(w, 'a')), false);
+        LightClassifier v = with("a<some r b;a<some r c;b<some s d;c<some s e;r*s<<t;");
+        due("by the first Y", v.link(part(v, 'a'), 2, part(v, 'd')), true);
+        due("by the second Y", v.link(part(v, 'a'), 2, part(v, 'e')), true);
+        LightClassifier u = with("a<some r b;b<some s d;a<some q c;c<some s e;r*s<<t;q*s<<t;");
+        due("by the first CHAIN", u.link(part(u, 'a'), 3, part(u, 'd')), true);
+        due("by the second CHAIN", u.link(part(u, 'a'), 3, part(u, 'e')), true);
+        due("both in one ROUND", u.told(5), 3);
     }
 
     static void t2_ruleNothing() {
@@ -652,6 +708,12 @@ public final class EdgesOfTermsTest extends Checks {
         due("a LINK to NOTHING itself", with("a<some r nothing;").when(2, 1), 3);
         LightClassifier y = with("b<nothing;some r b<c;a<c;");
         due("no LINK, no NOTHING", y.below(part(y, 'a'), 1), false);
+        LightClassifier z = with("a<some r v;v<nothing;a<p;p<q;q<w;w<z;");
+        due("in one ROUND with others", z.when(2, 1), 3);
+        due("the others come, too", z.why(2, part(z, 'w'), 0), 1);
+        due("and what follows", whenIs(z, 'a', 'z'), 4);
+        LightClassifier w = with("a<some r b;a<p;p<some r c;b<u;u<v;v<w;w<nothing;");
+        due("by an earlier LINK", w.when(2, 1), 5);
     }
 
     static void t2_rounds() {
@@ -751,6 +813,9 @@ public final class EdgesOfTermsTest extends Checks {
         due("NAMES of its own are not between", y.nodeOf(0, 1), 2);
         LightClassifier z = with("a<b;b<nothing;a<c;");
         due("VOID ones are not between", z.nodeOf(z.node(name(z, 'c')), 2), 0);
+        LightClassifier v = with("b<c;a<b;");
+        due("NODE 0 is between", v.nodeOf(2, 1), 1);
+        due("of c: NODE 0 alone", v.nodeOf(1, 2), 1);
         LightClassifier w = with("a<b;a<c;b<d;c<d;");
         due("CHILD of two", w.nodeOf(0, 1), 6);
         due("of d: b, c", w.nodeOf(3, 2), 6);
@@ -834,6 +899,8 @@ public final class EdgesOfTermsTest extends Checks {
         due("its AXIOM", z.why(2, 1, 1), 2);
         LightClassifier w = with("b=a;");
         due("EQUAL, back", w.why(part(w, 'a'), part(w, 'b'), 0), 1);
+        LightClassifier v = with("c=d;b=c;a<b;");
+        due("no EQUAL of others", v.why(part(v, 'a'), part(v, 'b'), 1), 2);
     }
 
     static void t2_why2() {
@@ -862,6 +929,9 @@ public final class EdgesOfTermsTest extends Checks {
         LightClassifier x = with("a<some r b;b<c;some r c<d;");
         due("the rule", x.why(2, x.axiom(2, 2), 0), 4);
         due("the PART", x.why(2, x.axiom(2, 2), 1), part(x, 'b'));
+        // c is in ABOVE(a), too, but a SOME is no AND.
+        LightClassifier y = with("a<some r b;a<c;b<c;some r c<d;");
+        due("no other rule", y.why(2, y.axiom(3, 2), 0), 4);
     }
 
     static void t2_why5() {
@@ -882,6 +952,15 @@ public final class EdgesOfTermsTest extends Checks {
         due("one of them OFF", x.needed(0, 2), 3);
         LightClassifier y = with("a<some r b;r*s<<t;b<some s c;some u c<d;t<<u;");
         due("AXIOMS of ROLES, too", y.needed(0, 3), 31);
+        LightClassifier z = with("a<some r a;r<<s;some s a<b;");
+        due("a LINK to itself", z.needed(0, 1), 7);
+        LightClassifier w = with("u<<u;t<<u;a<some r b;b<some s c;r*s<<t;some u c<d;s<<s;");
+        due("a CHAIN of later ROLES, below earlier ones", w.needed(0, name(w, 'd')), 2 | 4 | 8 | 16 | 32);
+        LightClassifier u = with("s<<s;a<some r b;r<<s;some s b<d;");
+        due("a later ROLE below an earlier one", u.needed(0, name(u, 'd')), 2 | 4 | 8);
+        LightClassifier v = with("a=b;c=b;");
+        due("EQUAL, forth and back", v.needed(0, 2), 3);
+        due("EQUAL, back and forth", v.needed(2, 0), 3);
         due("the highest bit", with("a<a;".repeat(31) + "a<b;").needed(0, 1), 1L << 31);
     }
 
@@ -907,6 +986,23 @@ public final class EdgesOfTermsTest extends Checks {
         due("with one OFF", x.reason(0, 2, NONE), 1);
         due("of no AXIOMS one, of none", x.reason(0, 0, NONE), 1);
         due("the set of none", x.reason(0, 0, 0), 0);
+        reasonsAre("a<m;a<m;m<z;m<z;", 5, 6, 9, 10);
+        reasonsAre("a<q;a<a;a<a;q<z;a<p;p<q;p<z;", 9, 56, 80);
+        reasonsAre("a=m;m=z;a=z;", 3, 4);
+        reasonsAre("a<some r m;r<<s;some s m<z;some r m<z;", 7, 9);
+        reasonsAre("a<some r m;m<some s n;r*s<<t;some t n<z;m<nothing;", 15, 17);
+    }
+
+    /** All REASONS for a below z. */
+    private static void reasonsAre(String text, long... want) {
+        LightClassifier x = with(text);
+        int a = name(x, 'a');
+        int z = name(x, 'z');
+        due("how many REASONS of " + text, x.reason(a, z, NONE), want.length);
+        for (int k = 0; k < want.length; k++) {
+            due("REASON " + k + " of " + text, x.reason(a, z, k), want[k]);
+        }
+        due("no more REASONS of " + text, x.reason(a, z, want.length), NONE);
     }
 
     static void t2_reasonsInOrder() {
@@ -943,6 +1039,10 @@ public final class EdgesOfTermsTest extends Checks {
         due("the highest bits", w.repair(0, 1), 0xF0000000L);
         z.turn(0);
         due("of those that are ON", z.repair(0, 1), 14);
+        LightClassifier v = with("a<p;p<z;p<z;a<z;");
+        due("one for two, one for the third", v.repair(0, 2), 1 | 8);
+        LightClassifier u = with("a<m;a<m;m<z;m<z;");
+        due("two for four", u.repair(0, 2), 3);
     }
 
     static void t2_model() {
@@ -962,6 +1062,7 @@ public final class EdgesOfTermsTest extends Checks {
         due("by r", model(x, "some r b"), 4 | 16);
         due("by s", model(x, "some s b"), 4 | 16);
         due("by t", model(x, "some t b"), 0);
+        due("of TOP and all", model(with("top<some r a;"), "some r a"), 1 | 4 | 8);
     }
 
     static void t2_modelOfConcepts() {
@@ -1118,6 +1219,12 @@ public final class EdgesOfTermsTest extends Checks {
         in("r<<s;a<some r b;some s b<c;", 1, 0, 0, 7);
         in("r<<s;some s a<b;s*r<<t;", 0, 1, 0, 5);
         in("", 0, 0, 0, 0);
+        in("a<b&c;b<d;c<e;", 1, 0, 0, 7);
+        in("a<some r b&some s c;r<<t;s<<t;c<c&a;", 1, 0, 0, 15);
+        in("a<some r(b&c);b<d;r<<s;", 1, 0, 0, 7);
+        in("r*s<<t;t<<u;", 0, 3, 0, 3);
+        in("r*s<<t;u<<r;v<<s;", 0, 4, 1, 7);
+        in("t<<t;r*s<<t;u<<r;v<<s;", 0, 1, 1, 15);
         in("a<b;b<c;c<d;d<e;e<f;f<g;g<h;h<i;i<j;j<k;k<l;l<m;m<n;n<o;o<p;p<q;q<r;r<s;s<t;t<u;u<v;v<w;w<x;", 1, 0, 0, (1 << 23) - 1);
         in("a<b;b<c;c<d;d<e;e<f;f<g;g<h;h<i;i<j;j<k;k<l;l<m;m<n;n<o;o<p;p<q;q<r;r<s;s<t;t<u;u<v;v<w;w<x;", 1 << 23, 0, 1, (1 << 23) - 1);
         in("a<b;".repeat(32), 1, 0, 0, 0xFFFFFFFFL);
