@@ -1114,8 +1114,10 @@ public final class NaiveModelTest {
     }
 
     public static void main(String[] args) {
-        for (String text : CORNERS) { corner(text, true); }
-        for (String text : LIMITS) { corner(text, false); }
+        if (args.length == 0) {
+            for (String text : CORNERS) { corner(text, true); }
+            for (String text : LIMITS) { corner(text, false); }
+        }
         int from = args.length > 0 ? Integer.parseInt(args[0]) : 0;
         int to = args.length > 1 ? Integer.parseInt(args[1]) : 150;
         for (int k = from; k < to; k++) { new Run(k).go(); }
